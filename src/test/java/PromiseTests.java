@@ -230,8 +230,8 @@ public final class PromiseTests {
         place(0, 0,0,0, 1,1,1) = 0; paint(0, 3, 0,0,0) = 1; draw() = 1
         paint(0, 4, 1,1,1) = 1; ink(0, 0, 0) = 1; place(0, 9,0,0, 2,2,2) = 0; place(1, 20,0,0, 1,1,1) = 0
         piece(0, 2) = 0; piece(0, 3) = 1; piece(1, 0) = -1; pixel(0, 0, 2) = 19; seen(0) = 6; count(3) = 6
-        keep(0) = 1; lift(0) = 1; back(0) = 1; lift(0) = 1
-        piece(0, 0) = 0; pixel(0, 0, 0) = 0; seen(0) = 6; count(0) = 1; count(4) = 6; changed(0) = 6; tangled(1) = 0
+        keep(0) = 1; lift(0) = 1; back(0) = 1; lift(0) = 1; tangled(1) = 0
+        piece(0, 0) = 0; pixel(0, 0, 0) = 0; seen(0) = 6; count(0) = 1; count(4) = 6; changed(0) = 6
         draw() = 1; seen(0) = 0; piece(0, 0) = 1; pixel(0, 0, 0) = -1
         """);
     run(
@@ -286,7 +286,8 @@ public final class PromiseTests {
         place(0, 0,0,0, 32,32,32) = 0; paint(0, 7, 0,0,0) = 1; pixel(0, 0, 0) = -1; pixel(0, 0, 3) = -1
         draw() = 1; count(3) = 6144
         pixel(-32, 0, 0) = 0; pixel(-32, 0, 1) = 1; pixel(31, 0, 0) = 0; pixel(31, 0, 1) = 0
-        pixel(0, -63, 1) = 2; pixel(0, -64, 0) = -1; pixel(0, -64, 3) = 0; pixel(0, 63, 0) = 0; pixel(-1, 63, 1) = 1; pixel(1, 63, 0) = -1
+        pixel(0, -63, 1) = 2; pixel(0, -64, 0) = -1; pixel(0, -64, 3) = 0
+        pixel(0, 63, 0) = 0; pixel(-1, 63, 1) = 1; pixel(1, 63, 0) = -1
         pixel(-32, -64, 0) = -1; pixel(-32, -64, 3) = 0; pixel(31, 63, 3) = 0; pixel(0, 0, 2) = 23
         pixel(-33, 0, 3) = -1; pixel(32, 0, 3) = -1; pixel(0, -65, 3) = -1; pixel(0, 64, 3) = -1
         pixel(MIN, 0, 3) = -1; pixel(0, MAX, 3) = -1; pixel(MAX, MIN, 0) = -1
@@ -349,6 +350,15 @@ public final class PromiseTests {
         place(0, 0,0,0, 3,2,2) = 0; draw() = 1; changed(0) = 14    # 8 are new, 6 have another face
         """);
     run(
+        "12 a single ink of a sprite",
+        SPRITED_BOX
+            + """
+            draw() = 1; ink(1, 2, 0x0C00) = 1; draw() = 1
+            changed(0) = 2; changed(1) = 2; changed(2) = 2; changed(3) = 8; changed(4) = 9
+            ink(3, 2, 0x0C00) = 1; draw() = 1
+            changed(0) = 2; changed(1) = 2; changed(2) = 3; changed(3) = -8; changed(4) = -8
+            """);
+    run(
         "12 how many were laid makes no difference",
         """
         place(0, 1,1,1, 1,1,1) = 0; draw() = 1; place(1, 0,0,0, 1,1,1) = 0; draw() = 2; changed(0) = 0; count(4) = 12
@@ -407,14 +417,15 @@ public final class PromiseTests {
     run(
         "16",
         """
-        place(3, 0,0,0, 1,1,1) = 0; place(1, 1,1,1, 1,1,1) = 0; place(2, 5,5,5, 1,1,1) = 0
-        under(0, 0, 0) = 2; under(0, 0, 1) = 1; under(0, 0, 2) = 3; under(0, 0, 3) = -1
+        place(3, 0,0,0, 1,1,1) = 0; place(1, 1,1,1, 1,1,1) = 0; place(0, 5,5,5, 1,1,1) = 0
+        under(0, 0, 0) = 0; under(0, 0, 1) = 1; under(0, 0, 2) = 3; under(0, 0, 3) = -1
         under(0, 0, -1) = -1; under(0, 0, MIN) = -1; under(0, 0, MAX) = -1; under(1, 0, 0) = -1
-        ink(0, 5, 0) = 1; under(0, 0, 0) = 2; lift(2) = 1; under(0, 0, 0) = 1
+        ink(0, 5, 0) = 1; under(0, 0, 0) = 0; lift(0) = 1; under(0, 0, 0) = 1
         under(-33, 0, 0) = -1; under(32, 0, 0) = -1; under(0, -65, 0) = -1; under(0, 64, 0) = -1
         under(MIN, 0, 0) = -1; under(0, MIN, 0) = -1; under(MAX, MAX, 0) = -1
         lift(1) = 1; lift(3) = 1; place(0, 0,0,0, 32,32,32) = 0
-        under(-32, 0, 0) = 0; under(31, 0, 0) = 0; under(0, -63, 0) = 0; under(0, -64, 0) = -1; under(0, 63, 0) = 0; under(-32, -64, 0) = -1
+        under(-32, 0, 0) = 0; under(31, 0, 0) = 0; under(0, -63, 0) = 0; under(0, -64, 0) = -1
+        under(0, 63, 0) = 0; under(-32, -64, 0) = -1
         """);
   }
 
