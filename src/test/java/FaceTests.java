@@ -88,7 +88,7 @@ public final class FaceTests {
     aRun(stage);
     long made = threads.getThreadAllocatedBytes(me) - before;
     System.out.println(made + " bytes made in a run");
-    CHECK.due("a run makes next to nothing", made < 4096, true);
+    CHECK.due("a run makes next to nothing", made < 256, true);
   }
 
   private static void aRun(BoxStage stage) {
