@@ -1,19 +1,6 @@
-import java.util.Arrays;
-
-/**
- * Runs by hand for each promise: ordinary inputs, the edges, wrong inputs. A run's lines are calls
- * with their answers (a boolean counts 1 or 0), several to a line with semicolons between them; what
- * follows # is a remark. Each run is made on a new BoxStage, and on a SlowStage, so that the two never
- * drift apart.
- */
+/** Runs by hand for each promise: ordinary inputs, the edges, wrong inputs. */
 public final class PromiseTests {
   private static final Check CHECK = new Check();
-
-  /** Three boxes in a cube of size 2, of which 0 covers 1, 1 covers 2 and 2 covers 0. */
-  private static final String RING =
-      """
-      place(0, 1,0,0, 1,1,2) = 0; place(1, 0,0,1, 1,2,1) = 0; place(2, 0,1,0, 2,1,1) = 0
-      """;
 
   /** Twenty beams, which are cut into just 96 pieces. */
   private static final String WEAVE_OF_96 =
@@ -223,7 +210,7 @@ public final class PromiseTests {
 
   private static void promise8Draw() throws ReflectiveOperationException {
     run("8 none", "draw() = 0; draw() = 0; count(6) = 2; pixel(0, 0, 3) = 0; pixel(0, 0, 0) = -1");
-    run("8 a ring", RING + "draw() = 4; count(1) = 1; count(2) = 1; lift(1) = 1; draw() = 2; count(1) = 0");
+    run("8 a ring", Scenes.RING + "draw() = 4; count(1) = 1; count(2) = 1; lift(1) = 1; draw() = 2; count(1) = 0");
     run(
         "8 what was drawn stays",
         """
@@ -250,7 +237,7 @@ public final class PromiseTests {
   private static void promise9Piece() throws ReflectiveOperationException {
     run(
         "9 a ring is cut once",
-        RING
+        Scenes.RING
             + """
             draw() = 4
             piece(0, 0) = 0; piece(0, 1) = 0; piece(1, 0) = 2; piece(1, 1) = 2; piece(2, 0) = 1; piece(2, 1) = 1
@@ -305,7 +292,7 @@ public final class PromiseTests {
         """);
     run(
         "10 a cut shows through no hole",
-        RING
+        Scenes.RING
             + """
             paint(0, 1, 1,1,2) = 1; ink(1, 1, 0) = 1
             draw() = 4; piece(3, 1) = 24; piece(0, 7) = 1    # the upper half of box 0 has holes at faces 0 and 1
@@ -368,7 +355,7 @@ public final class PromiseTests {
   private static void promise13Count() throws ReflectiveOperationException {
     run(
         "13",
-        RING
+        Scenes.RING
             + """
             count(5) = 3; count(0) = 0; count(6) = 0; draw() = 4
             count(0) = 4; count(1) = 1; count(2) = 1; count(3) = 24; count(4) = 32; count(5) = 3; count(6) = 1
@@ -386,7 +373,7 @@ public final class PromiseTests {
   private static void promise14Covers() throws ReflectiveOperationException {
     run(
         "14",
-        RING
+        Scenes.RING
             + """
             covers(0, 1) = 2; covers(1, 0) = 0; covers(1, 2) = 2; covers(2, 1) = 0; covers(2, 0) = 2; covers(0, 2) = 0
             covers(0, 0) = -1; covers(0, 3) = -1; covers(3, 0) = -1; covers(3, 3) = -1
@@ -405,7 +392,7 @@ public final class PromiseTests {
   private static void promise15Tangled() throws ReflectiveOperationException {
     run(
         "15",
-        RING
+        Scenes.RING
             + """
             tangled(0) = 3; tangled(1) = 3; tangled(2) = 3; tangled(3) = -1; tangled(-1) = -1; tangled(24) = -1
             place(3, 2,2,2, 1,1,1) = 0; tangled(3) = 0; tangled(0) = 3; draw() = 5; tangled(0) = 3
@@ -461,33 +448,6 @@ public final class PromiseTests {
   }
 
   private static void run(String name, String calls) throws ReflectiveOperationException {
-    BoxStage stage = new BoxStage();
-    SlowStage slow = new SlowStage();
-    for (String call : calls.replaceAll("#.*", "").split("[;\n]")) {
-      if (!call.isBlank()) {
-        String text = call.trim();
-        int open = text.indexOf('(');
-        int close = text.indexOf(')');
-        int[] values = valuesOf(text.substring(open + 1, close));
-        long want = Long.parseLong(text.substring(text.indexOf('=') + 1).trim());
-        CHECK.due("run " + name + ": " + text, Calls.answer(stage, text.substring(0, open), values), want);
-        CHECK.due("slow run " + name + ": " + text, Calls.answer(slow, text.substring(0, open), values), want);
-      }
-    }
-  }
-
-  private static int[] valuesOf(String list) {
-    return list.isBlank() ? new int[0] : Arrays.stream(list.split(",")).mapToInt(PromiseTests::valueOf).toArray();
-  }
-
-  private static int valueOf(String word) {
-    switch (word.trim()) {
-      case "MIN":
-        return Integer.MIN_VALUE;
-      case "MAX":
-        return Integer.MAX_VALUE;
-      default:
-        return Long.decode(word.trim()).intValue();
-    }
+    Calls.run(CHECK, name, calls);
   }
 }
