@@ -2,10 +2,10 @@ import java.util.ArrayList;
 import java.util.List;
 
 /**
- * "A call that is refused (NONE, false, 1 or more of place()) changes nothing." On each of some stages all
+ * "A call that is refused (NONE, false, 1 or more of place()) changes nothing." On each of three stages many
  * calls of a method that must be refused are made, every argument being too small, too large or far off in
- * turn; then all that can be asked is asked, there and on a like stage on which they were not made. What
- * would go beyond the calls that an object is made for is asked on further stages.
+ * turn; then the stage is asked for what it is and for what it drew, and so is a like one on which they were
+ * not made. What would go beyond the calls that an object is made for is asked on further stages.
  */
 public final class RefusalTests {
   private static final Check CHECK = new Check();
@@ -207,7 +207,7 @@ public final class RefusalTests {
     ask(questions, "", drawing);
     ask(questions, "", all("tangled", box));
     ask(questions, "", all("covers", box, box));
-    ask(questions, "", all("under", new int[] {-16, 15}, new int[] {-32, 31}, new int[] {0, 2}));
+    ask(questions, "", all("under", i, j, new int[] {0, 2}));
     ask(questions, "", all("piece", new int[] {0, 96}, new int[] {0, 7}));
     ask(questions, "", all("pixel", i, j, new int[] {0, 3}));
     ask(questions, "draw() = 0", drawing);
